@@ -957,10 +957,10 @@ public final class BarsTogether {
             ringHeights.become(other.ringHeights);
             strip.become(other.strip);
             // TEXTS and COUNTINGS never change once they are made, so two States may share them.
-            for (int i = 0; i < USES; i++) {
+            for (int i = 0; i < texts.length && i < other.texts.length; i++) {
                 texts[i] = other.texts[i];
             }
-            for (int i = 0; i < MOST_COUNTINGS; i++) {
+            for (int i = 0; i < countings.length && i < other.countings.length; i++) {
                 countings[i] = other.countings[i];
             }
             countingsMade = other.countingsMade;

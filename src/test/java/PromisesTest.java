@@ -24,6 +24,7 @@ public final class PromisesTest {
         countings();
         givings();
         slides();
+        fortySlides();
         linesTried();
         letIn();
         hours();
@@ -481,6 +482,88 @@ public final class PromisesTest {
         x.counting(4, 1, 450, 0, 10);
         due(15, "LINED is 0 behind the last height", x.gives(11), 0);
         lined();
+        everyKind();
+        offByClocks();
+        twiceAtTheEnd();
+    }
+
+    /** WINDOW 0, so that a slide by 1 more or less is seen; SLIDE 10. */
+    private static void everyKind() {
+        fresh();
+        int[] ofA = {100, 200, 300, 400, 500};
+        for (int tenth : ofA) {
+            x.ring(0, tenth, 500);
+        }
+        // By 0: 100, 200, 300, 400; by 10, 20, 30, 40 one each; by 50 four.
+        int[] ofB = {100, 200, 300, 400, 490, 480, 470, 460, 450, 50, 150, 250};
+        for (int tenth : ofB) {
+            x.ring(1, tenth, 500);
+        }
+        for (int kind = 0; kind < 8; kind++) {
+            x.counting(kind, 1, 0, 0, 10);
+        }
+        due(15, "COUNTING", x.gives(0), 4);
+        due(15, "WARM of 8 by 5", x.gives(1), 1);
+        due(15, "PUSHED", x.gives(2), 3);
+        due(15, "NEAR", x.gives(3), 1);
+        due(15, "LINED", x.gives(4), 3);
+        due(15, "TWICE", x.gives(5), 4);
+        due(15, "SLID", x.gives(6), 1);
+        due(15, "OFF", x.gives(7), 4);
+        x.ring(0, 465, 500);
+        x.ring(1, 455, 500);
+        x.ring(1, 445, 500);
+        // By 10 and by 20 the new RING of a meets, too: 10 by 5.
+        due(15, "WARM of 10 by 5", x.gives(1), 2);
+        x.ring(0, 550, 1);
+        x.ring(1, 540, 1);
+        x.ring(1, 530, 1);
+        x.ring(1, 520, 1);
+        x.ring(1, 510, 1);
+        due(15, "WARM of 14 by 5", x.gives(1), 2);
+        x.ring(1, 500, 1);
+        // Now by 50 as well, and 500 meets by 0.
+        due(15, "WARM of 15 by 5", x.gives(1), 3);
+        due(15, "PUSHED", x.gives(2), 2);
+    }
+
+    private static void offByClocks() {
+        x = new BarsTogether();
+        x.bar(1);
+        x.bar(2);
+        x.bar(0);
+        x.clock(0, 70);
+        x.clock(1, 5);
+        x.clock(2, -20);
+        x.ring(2, 100, 1);
+        x.ring(1, 100, 1);
+        x.counting(7, 21, 0, 0, 1);
+        x.counting(7, 12, 0, 0, 1);
+        // SHOWN at 170 and 80; slid by 90, and by -90, they meet.
+        due(15, "OFF by CLOCKS of BARS 2 and 1", x.gives(0), 1);
+        due(15, "OFF by CLOCKS of BARS 1 and 2", x.gives(1), 1);
+        x.clock(1, -999);
+        due(15, "another HOUSE", x.gives(0), 1);
+        x.ring(0, 100, 1);
+        x.counting(7, 20, 0, 0, 1);
+        due(15, "OFF by 1069", x.gives(2), 1);
+    }
+
+    private static void twiceAtTheEnd() {
+        fresh();
+        x.ring(0, 100, 1);
+        x.ring(0, 110, 1);
+        x.ring(1, 105, 1);
+        x.counting(5, 1, 0, 5, 1);
+        x.counting(5, 1, 0, 4, 1);
+        x.counting(5, 10, 0, 5, 1);
+        due(15, "TWICE: both RINGS of a are the last", x.gives(0), 3);
+        due(15, "TWICE: WINDOW 4", x.gives(1), 0);
+        due(15, "TWICE: b's are not asked", x.gives(2), 1);
+        x.ring(0, 105, 1);
+        due(15, "TWICE: three count once", x.gives(0), 4);
+        x.ring(1, 102, 1);
+        due(15, "TWICE: each RING of b", x.gives(0), 5);
     }
 
     private static void lined() {
@@ -533,6 +616,30 @@ public final class PromisesTest {
         due(17, "m 0", x.ahead(0, 0, 0), BEYOND);
         due(17, "m 41", x.ahead(0, 41, 0), BEYOND);
         due(17, "counting -1", x.ahead(-1, 4, 0), BEYOND);
+    }
+
+    /** MEETS by 0, 39 and 40 SLIDES only. */
+    private static void fortySlides() {
+        fresh();
+        x.ring(0, 790, 500);
+        x.ring(0, 800, 500);
+        x.ring(1, 400, 500);
+        x.ring(1, 800, 500);
+        x.counting(0, 1, 0, 0, 10);
+        x.line(0);
+        x.line(700);
+        int[] m = {38, 39, 40};
+        int[] above = {0, 1, 1};
+        int[] below = {1, 39, 20};
+        for (int i = 0; i < 3; i++) {
+            due(16, "above by " + m[i], x.chance(0, m[i], 0), above[i]);
+            due(16, "below by " + m[i], x.chance(0, m[i], 1), below[i]);
+            due(20, "above by " + m[i], x.paid(0, m[i], 0), above[i]);
+            due(20, "below by " + m[i], x.paid(0, m[i], 1), below[i]);
+            due(17, "AHEAD by " + m[i], x.ahead(0, m[i], 0), i == 0 ? 1 : 2);
+        }
+        due(17, "5 of 100", x.ahead(0, 40, 5), 1);
+        due(17, "4 of 100", x.ahead(0, 40, 4), 2);
     }
 
     private static void linesTried() {
@@ -635,6 +742,22 @@ public final class PromisesTest {
         due(24, "window 10: nearest to 0", x.hours(1, 10000, 400, 0), -20);
         due(24, "the other way round", x.hours(10, 0, 400, 0), 30);
         due(24, "window 50, line 999", x.hours(1, 50999, 400, 1), 0);
+        fresh();
+        x.ring(0, 1000, 1);
+        x.ring(1, 999, 1);
+        due(24, "slide 1", x.hours(1, 0, 400, 0), 1);
+        due(24, "slide -1", x.hours(10, 0, 1, 0), -1);
+        fresh();
+        x.ring(0, 1000, 1);
+        x.ring(1, 600, 1);
+        due(24, "slide 400", x.hours(1, 0, 400, 0), 400);
+        due(24, "slide 400 meets", x.hours(1, 0, 400, 1), 1);
+        due(24, "slide -400", x.hours(10, 0, 400, 0), -400);
+        due(24, "e 399", x.hours(1, 0, 399, 1), 0);
+        x.ring(1, 610, 1);
+        x.ring(0, 1005, 1);
+        due(24, "each RING of a once by a slide", x.hours(1, 50000, 400, 1), 2);
+        due(24, "the first slide with both", x.hours(1, 50000, 400, 0), 345);
         due(24, "lw 51000", x.hours(1, 51000, 400, 0), BEYOND);
         due(24, "lw -1", x.hours(1, -1, 400, 0), BEYOND);
         due(24, "e 401", x.hours(1, 0, 401, 0), BEYOND);
@@ -675,6 +798,8 @@ public final class PromisesTest {
         due(26, "bar -1", x.stars(-1, 0, 24, 24), BEYOND);
         due(26, "l 1000", x.stars(0, 1000, 24, 24), BEYOND);
         // By 23: rests 0, 1, 4, 7: parts 0, 0, 2, 3. By 24: 8. By 25: 0, 24, 0, 24: parts 0, 11, 0, 11.
+        due(26, "up to the last", x.stars(0, 0, 23, 24), 24);
+        due(26, "from the first on", x.stars(0, 0, 25, 26), 25);
         due(26, "the greatest, of several the least", x.stars(0, 0, 23, 25), 24);
         due(27, "no less than by 25", x.tried(0, 0, 23, 25, 25), 2);
         due(27, "no less than by 23", x.tried(0, 0, 23, 25, 23), 3);
@@ -808,6 +933,7 @@ public final class PromisesTest {
         due(35, "twice a YEAR", x.gone(100, 500, 2), 1);
         // 10: one at a time, 3 a YEAR: 7, 4.
         due(35, "thrice a YEAR", x.gone(10, 1, 3), 2);
+        due(35, "m 1", x.gone(1, 1, 1), 1);
         due(35, "m 2", x.gone(2, 1, 1), 2);
         due(35, "nine times", x.gone(99999, 1, 9), 77);
         due(35, "m 0", x.gone(0, 1, 1), BEYOND);
@@ -855,7 +981,12 @@ public final class PromisesTest {
         due(38, "BEYOND ahead of FULL", x.both(1, 11), BEYOND);
         due(37, "none comes", x.count(1), 84);
         due(37, "z stays", x.count(9), z);
+        x.image();
         due(38, "room for 12", x.both(1, 6), 96);
+        x.restore();
+        due(37, "room for 12", x.made(0, 12), 96);
+        x.restore();
+        due(37, "one RING", x.made(0, 1), 85);
     }
 
     private static void speak(int counting, int act, int number, int want, int... bodies) {
@@ -922,6 +1053,8 @@ public final class PromisesTest {
         due(42, "sheet 4", x.put(4, 0, 1), BEYOND);
         due(42, "sheet -1", x.put(-1, 0, 1), BEYOND);
         due(42, "NONE ahead of BEYOND of i", x.put(1, 99, 1), NONE);
+        due(41, "sheet 3", x.sheet(3, 32, 1), 1);
+        due(42, "sheet 3", x.put(3, 0, 1), 1);
         due(41, "missing again", x.sheet(0, 0, 0), 1);
         due(42, "missing again", x.put(0, 0, 1), NONE);
         due(41, "n 0", x.sheet(0, 32, 0), 1);
