@@ -314,6 +314,27 @@ final class CountingsEdges extends Edge {
         rings(0, 1, 100, 100);
         rings(1, 1, 100);
         due("w 0, like ones", x.gives(0), 3);
+        edge(15, "SHOWN w away at most from two RINGS of a that COUNT");
+        bars(0, 1);
+        x.counting(5, 1, 0, 50, 1);
+        rings(0, 1, 0);
+        due("b has none", x.gives(0), 0);
+        rings(1, 1, 0);
+        due("near one alone, at TENTH 0", x.gives(0), 1);
+        x.clock(0, -999);
+        x.clock(1, -999);
+        due("near one alone, SHOWN below 0", x.gives(0), 1);
+        rings(0, 1, 50);
+        due("near two, SHOWN below 0", x.gives(0), 3);
+        x.clock(1, 999);
+        due("near none", x.gives(0), 0);
+        edge(15, "1 for each RING of b that COUNTS");
+        bars(0, 1);
+        x.counting(5, 1, 0, 50, 1);
+        rings(0, 1, 0, 0);
+        due("two of a, none of b", x.gives(0), 0);
+        rings(1, 1, 9999);
+        due("two of a, one of b far from them", x.gives(0), 0);
     }
 
     private static void givesSlid() {
@@ -354,5 +375,18 @@ final class CountingsEdges extends Edge {
         due("slid by 1998", x.gives(1), 1);
         x.clock(1, 998);
         due("CLOCKS as they are now", x.gives(0), 1);
+        edge(15, "slid by CLOCK of a's HOUSE less that of b's");
+        bars(2, 2, 2, 2, 0, 1);
+        x.clock(0, 300);
+        x.clock(1, -70);
+        x.clock(2, 999);
+        rings(4, 1, 500);
+        rings(5, 1, 500);
+        rings(0, 1, 500);
+        int[] pairs = {45, 54, 5, 50, 40, 4};
+        for (int i = 0; i < pairs.length; i++) {
+            x.counting(7, pairs[i], 0, 0, 1);
+            due("BARS " + pairs[i], x.gives(i), 1);
+        }
     }
 }

@@ -182,6 +182,20 @@ final class DaysEdges extends Edge {
         due("-60, not 40, which has 47", x.hours(1, 0, 400, 0), -60);
         due("e 59: 40", x.hours(1, 0, 59, 0), 40);
         due("WINDOW 50: -10, where all meet", x.hours(1, 50000, 400, 0), -10);
+        edge(24, "of slides -e to e");
+        bars(0, 1);
+        rings(0, 1, 1000);
+        rings(1, 1, 990, 1000, 1010);
+        due("three near one are one", x.hours(1, 10000, 0, 1), 1);
+        due("one near three are three", x.hours(10, 10000, 0, 1), 3);
+        rings(0, 1, 2000);
+        rings(1, 1, 999, 1999);
+        due("1, though 0 has some", x.hours(1, 0, 400, 0), 1);
+        due("two by 1", x.hours(1, 0, 400, 1), 2);
+        rings(0, 1, 3000);
+        rings(1, 1, 1001, 2001, 3001);
+        due("-1, though 0 has some", x.hours(1, 0, 400, 0), -1);
+        due("three by -1", x.hours(1, 0, 400, 1), 3);
     }
 
     private static void hoursOfLw() {
@@ -193,6 +207,9 @@ final class DaysEdges extends Edge {
         due("LINE 998, WINDOW 0", x.hours(1, 998, 400, 0), -50);
         due("LINE 999, WINDOW 0", x.hours(1, 999, 400, 1), 0);
         due("LINE 0, WINDOW 1", x.hours(1, 1000, 400, 0), -49);
+        due("LINE 998, WINDOW 1", x.hours(1, 1998, 400, 0), -49);
+        due("LINE 998, WINDOW 49", x.hours(1, 49998, 400, 0), -1);
+        due("LINE 999, WINDOW 1", x.hours(1, 1999, 400, 1), 0);
         due("LINE 998, WINDOW 50", x.hours(1, 50998, 0, 1), 1);
         due("LINE 999, WINDOW 50", x.hours(1, 50999, 400, 1), 0);
         beyond("lw", v -> x.hours(1, v, 400, 0), -1, 51000, LEAST, MOST);

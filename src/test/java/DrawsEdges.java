@@ -11,6 +11,7 @@ final class DrawsEdges extends Edge {
         bothOfN();
         bothWithoutRoom();
         voicesGoRound();
+        voicesOfKinds();
         voicesLikeErrors();
         voicesRefused();
         traces();
@@ -136,6 +137,14 @@ final class DrawsEdges extends Edge {
         due("22 draws in all", x.count(9), z);
         due("the last of a", x.ringOf(20, 0), 0);
         due("the last of b", x.ringOf(21, 0), 1);
+        edge(38, "a RING of a, then one of b");
+        bars(0, 0, 0, 0, 0, 0);
+        int[] pairs = {5, 50, 45, 54};
+        for (int i = 0; i < pairs.length; i++) {
+            due("BARS " + pairs[i], x.both(pairs[i], 1), 2 * i + 2);
+            due("a of " + pairs[i], x.ringOf(2 * i, 0), pairs[i] / 10);
+            due("b of " + pairs[i], x.ringOf(2 * i + 1, 0), pairs[i] % 10);
+        }
     }
 
     private static void bothWithoutRoom() {
@@ -220,6 +229,34 @@ final class DrawsEdges extends Edge {
         due("the last", x.voice(0, 3, 10), 20 ^ 9);
     }
 
+    /** What rings, meets, bounds and tells of a COUNTING give for x 5. */
+    private static void voiced(int counting, int rings, int meets, int bounds, int tells) {
+        int[] wants = {rings, meets, bounds, tells};
+        for (int act = 0; act < 4; act++) {
+            due("VOICE " + act + " of KIND " + counting, x.voice(counting, act, 5), wants[act]);
+        }
+    }
+
+    private static void voicesOfKinds() {
+        edge(39, "rings(..) is the BODY of its KIND, or of the next KIND above that has one; super.rings(..) that from the "
+                + "KIND above the BODY's on.");
+        eightKinds();
+        voiced(0, 5, 10, 4, 10 ^ 4);
+        voiced(1, 6, 11, 3, 11 ^ 3);
+        // bounds(1) is 1 - 3.
+        voiced(2, 7 - 2, 10, 2, 10 ^ 2);
+        // meets(2) is 10.
+        voiced(3, 8, 16, 1, 10 - (16 ^ 1));
+        voiced(4, 9, 18, 0, 18);
+        voiced(5, 10, 30, -1, 30 ^ -1);
+        // tells by 6: meets is -24, bounds -1.
+        voiced(6, -11, -22, -2, -24 ^ -1);
+        // tells by 6: meets is -26 ^ 7, bounds -2; with bounds(5), which is -3.
+        voiced(7, -12, -24 ^ 7, -3, -3 + (-26 ^ 7 ^ -2));
+        x.counting(4, 1, 0, 0, 1);
+        due("LINED of LINE 0", x.voice(8, 2, 5), 15);
+    }
+
     private static void traceIs(int counting, int act, int... bodies) {
         x.voice(counting, act, 5);
         due("BODIES of " + counting + ", " + act, x.count(8), bodies.length);
@@ -249,6 +286,7 @@ final class DrawsEdges extends Edge {
         traceIs(4, 2, 50, 12);
         traceIs(4, 3, 13, 11, 10, 50, 12);
         traceIs(5, 1, 60, 11, 10, 10);
+        traceIs(5, 3, 13, 60, 11, 10, 10, 12);
         edge(40, "SLID: 70 rings: -super.rings(x). 71 tells: super.tells(x + 1). OFF: 80 meets: super.meets(x) ^ n. "
                 + "81 tells: bounds(x) + super.tells(x). rings(..) is the BODY of its KIND, or of the next KIND above that "
                 + "has one; super.rings(..) that from the KIND above the BODY's on.");

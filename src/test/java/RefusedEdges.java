@@ -49,6 +49,9 @@ final class RefusedEdges extends Edge {
         partlyFull();
         noneOnes();
         others();
+        orderOfFull();
+        orderOfNone();
+        orderOfSheets();
     }
 
     private static void sentence(int promise) {
@@ -295,5 +298,51 @@ final class RefusedEdges extends Edge {
             refusedCall(STATE, "sheet", 0, 16, -1);
             refusedCall(STATE, "sheet", 3, 8, LEAST);
         }
+    }
+    // ---- the first of several ERRORS that hold
+
+    private static void first(int promise, int error, String name, int... arguments) {
+        edge(promise, "Each act tells its ERRORS in the order in which they are asked");
+        refusedCall(error, name, arguments);
+    }
+
+    private static void orderOfFull() {
+        world = Worlds.FULL;
+        first(3, BEYOND, "bar", 3);
+        first(4, BEYOND, "ring", 6, 5, 5);
+        first(9, BEYOND, "feed", '1', 9);
+        first(13, BEYOND, "counting", 0, 1, 0, 5, 0);
+        first(18, BEYOND, "line", 1000);
+        first(21, BEYOND, "let", 10000);
+        first(33, BEYOND, "quiet", 5, 10000);
+        first(37, BEYOND, "made", 0, 21);
+        first(38, BEYOND, "both", 1, 11);
+    }
+
+    private static void orderOfNone() {
+        world = Worlds.BARE;
+        first(6, BEYOND, "onTape", 2, 96);
+        first(8, BEYOND, "rows", 2, 0);
+        first(14, BEYOND, "as", 1, 1);
+        first(14, BEYOND, "as", 0, 8);
+        first(19, BEYOND, "chosen", 1, 5);
+        first(19, BEYOND, "chosen", 0, 41);
+        first(20, BEYOND, "paid", 0, 5, 2);
+        first(32, BEYOND, "find", 6, 6);
+        first(34, BEYOND, "bound", 1000);
+    }
+
+    private static void orderOfSheets() {
+        world = Worlds.FURNISHED;
+        first(41, BEYOND, "sheet", 4, 8, -1);
+        first(41, BEYOND, "sheet", 0, 7, -1);
+        first(41, STATE, "sheet", 0, 8, -1);
+        first(42, BEYOND, "put", 4, -1, 5);
+        first(42, NONE, "put", 3, -1, 5);
+        first(43, BEYOND, "move", 4, -1, 3, -1, -1);
+        first(43, BEYOND, "move", 3, -1, 4, -1, -1);
+        first(43, NONE, "move", 3, -1, 0, -1, -1);
+        first(43, NONE, "move", 2, -1, 3, -1, -1);
+        first(43, KIND, "move", 2, -1, 0, -1, -1);
     }
 }

@@ -353,6 +353,29 @@ final class SheetsEdges extends Edge {
         due("the IMAGE stays", x.restore(), 2);
         due("the IMAGE's CLOCK stays", x.clock(0, 0), 0);
         due("RINGS go on from there", x.ring(0, 9, 1), 2);
+        edge(45, "All is as the IMAGE has it");
+        bars(0, 1);
+        x.image();
+        bars(2);
+        rings(2, 1, 5);
+        x.counting(5, 1, 7, 0, 1);
+        x.line(9);
+        x.let(9);
+        x.quiet(1, 1);
+        x.restore();
+        refused(BEYOND, "no BAR that came later", () -> x.onTape(2, 0));
+        refused(BEYOND, "no RING that came later", () -> x.ringOf(0, 0));
+        refused(BEYOND, "no COUNTING that came later", () -> x.as(0, 0));
+        due("its number is given again", x.counting(0, 10, 8, 0, 1), 0);
+        due("its LINE", x.as(0, 0), 8);
+        refused(KIND, "its KIND", () -> x.as(0, 5));
+        refused(NONE, "no LINE TRIED that came later", () -> x.chosen(0, 1));
+        due("QUIET ones go on from there", x.quiet(1, 100), 1);
+        due("BOUND of that one", x.bound(1), 300);
+        due("LETS go on from there", x.let(700), 0);
+        due("BARS go on from there", x.bar(0), 2);
+        rings(2, 1, 700);
+        due("SEEN", x.seen(2, 0, 0), 1);
     }
 
     private static void tells() {
