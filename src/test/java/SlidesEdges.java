@@ -176,6 +176,9 @@ final class SlidesEdges extends Edge {
         x.line(100);
         due("the sixth", x.chosen(0, 40), 5);
         due("a COUNTING's own LINE and KIND play no part", x.chosen(1, 40), 5);
+        refusedEach(FULL, "a seventh", v -> x.line(v), 0, 999);
+        due("the six are as they were", x.chosen(0, 40), 5);
+        due("and so is what they pay", x.paid(0, 40, 1), 40);
     }
 
     private static void chosenBelow() {

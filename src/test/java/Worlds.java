@@ -2,7 +2,10 @@ import java.util.ArrayList;
 import java.util.List;
 import java.util.function.Consumer;
 
-/** Objects with much in them, and ways to ask an object for all that it holds. */
+/**
+ * Objects with much in them, and ways to ask an object for all that it holds; both together take fewer
+ * than the 512 calls that the document gives an object.
+ */
 final class Worlds {
     /** A name, and what is done with a new object. */
     record World(String name, Consumer<BarsTogether> built) {
@@ -85,14 +88,22 @@ final class Worlds {
         }
     }
 
+    /** Behind the 16 RINGS and 3 bytes of a furnished one. */
     private static void nearlyFull(BarsTogether x) {
         furnished(x);
-        while (x.count(1) < 95) {
-            x.made(0, Math.min(20, 95 - x.count(1)));
+        for (int i = 0; i < 3; i++) {
+            x.made(0, 20);
         }
-        while (x.count(6) < 49) {
-            x.feed(0x312bL, 2);
+        x.made(0, 19);
+        feedTo49(x);
+    }
+
+    private static void feedTo49(BarsTogether x) {
+        long ones = 0x312b312b312b312bL;
+        for (int i = 0; i < 5; i++) {
+            x.feed(ones, 8);
         }
+        x.feed(ones, 6);
     }
 
     private static void full(BarsTogether x) {
@@ -100,18 +111,24 @@ final class Worlds {
         for (int i = 0; i < 3; i++) {
             x.bar(2);
         }
-        while (x.count(1) < 96) {
-            x.made(5, Math.min(20, 96 - x.count(1)));
+        for (int i = 0; i < 4; i++) {
+            x.made(5, 20);
         }
-        while (x.count(6) < 49) {
-            x.feed(0x312bL, 2);
-        }
+        feedTo49(x);
         x.feed('1', 1);
-        for (int i = 0; i < 18; i++) {
-            x.counting(i % 8, 15, i, 50, 1 + i);
+        for (int i = 0; i < 3; i++) {
             x.line(i);
-            x.let(100 * i);
+        }
+        for (int i = 0; i < 6; i++) {
             x.quiet(900 + i, 1 + i);
+        }
+        for (int i = 0; i < 8; i++) {
+            x.let(100 * i);
+        }
+        for (int i = 0; i < 9; i++) {
+            x.counting(i % 8, 15, i, 50, 1 + i);
+        }
+        for (int i = 0; i < 16; i++) {
             x.tell(i);
         }
     }
@@ -137,7 +154,8 @@ final class Worlds {
         for (int what = 0; what <= 9; what++) {
             asked.keep(asked.x.count(what));
         }
-        for (int ring = 0; ring < asked.x.count(1); ring++) {
+        int rings = asked.x.count(1);
+        for (int ring = 0; ring < rings; ring++) {
             for (int what = 0; what <= 2; what++) {
                 asked.keep(asked.x.ringOf(ring, what));
             }
@@ -146,15 +164,16 @@ final class Worlds {
 
     private static void tapes(Asked asked) {
         for (int bar = 0; bar < 6; bar++) {
-            int place = 0;
-            while (asked.x.onTape(bar, place) >= 0) {
-                asked.keep(asked.x.onTape(bar, place));
-                place++;
+            int ring = 0;
+            for (int place = 0; ring >= 0; place++) {
+                ring = asked.x.onTape(bar, place);
+                asked.keep(ring);
             }
             asked.keep(asked.x.seen(bar, 0, 50));
             asked.keep(asked.x.wrong(bar, 0, 50));
         }
-        for (int ring = 0; ring < asked.x.count(1); ring++) {
+        int rings = asked.x.count(1);
+        for (int ring = 0; ring < rings; ring++) {
             asked.keep(asked.x.counts(ring, 0));
         }
         for (int house = 0; house < 3; house++) {
@@ -217,9 +236,10 @@ final class Worlds {
             }
             int came = x.rows(0, sheet);
             asked.keep(came);
+            int rings = x.count(1);
             for (int i = 1; i <= came; i++) {
-                asked.keep(x.ringOf(x.count(1) - i, 1));
-                asked.keep(x.ringOf(x.count(1) - i, 2));
+                asked.keep(x.ringOf(rings - i, 1));
+                asked.keep(x.ringOf(rings - i, 2));
             }
             for (int i = 0; i < 41; i++) {
                 asked.keep(x.put(sheet, i, 1));
